@@ -11,6 +11,7 @@ public final class RacksTest {
         judgesWhatLacks();
         judgesTheFirstPart();
         images();
+        imagesOfAllThereCanBe();
         imagesLeaveTheRest();
         counts();
         Dues.end("RacksTest");
@@ -259,6 +260,24 @@ public final class RacksTest {
         Dues.due("paid as it was", x.fits(0, 4, 1), 44);
     }
 
+    private static void imagesOfAllThereCanBe() {
+        TariffBoxes x = new TariffBoxes();
+        for (int k = 0; k < 24; k++) {
+            x.flat(k);
+        }
+        for (int k = 0; k < 8; k++) {
+            x.paid(k, 23);
+        }
+        Dues.due("image", x.image(), 24);
+        x.drop();
+        x.flat(99);
+        x.paid(-1, 0);
+        Dues.due("undo", x.undo(), 24);
+        Dues.due("the last term", x.of(23, 1), 23);
+        Dues.due("paid", x.count(1), 8);
+        Dues.due("the last one paid", x.fits(23, 23, 1), 23);
+    }
+
     private static void imagesLeaveTheRest() {
         TariffBoxes x = new TariffBoxes();
         x.flat(12);
@@ -279,6 +298,7 @@ public final class RacksTest {
     private static void counts() {
         TariffBoxes x = new TariffBoxes();
         x.flat(12);
+        Dues.due("size of one", x.count(5), 1);
         x.when(0, 603);
         x.when(1, 603);
         x.cap(1, 603, 1);

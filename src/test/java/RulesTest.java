@@ -104,6 +104,9 @@ public final class RulesTest {
         Dues.same("of nothing", rules(x, 10), "10!");
         Dues.due("read", Dues.tell(x, "^070603:0(/(?000603(5),9))"), 15);
         Dues.same("under a cap", rules(x, 15), "12!");
+        x = new TariffBoxes();
+        Dues.due("read", Dues.tell(x, "+(?000000(4),/(?776633(5),-))"), 6);
+        Dues.same("of the first case alone, of the last one alone", rules(x, 6), "1 3");
     }
 
     private static void overlap() {

@@ -72,9 +72,12 @@ public final class SaidTest {
         Dues.due("9 of 224 below", x.odds(3, 1), 224);
         Dues.due("105 of 224 above", x.odds(4, 0), 15);
         Dues.due("105 of 224 below", x.odds(4, 1), 32);
+        x.when(0, 1);
+        Dues.due("2 of 224 above", x.odds(5, 0), 1);
+        Dues.due("2 of 224 below", x.odds(5, 1), 112);
         Dues.due("part 2", x.odds(0, 2), Long.MIN_VALUE);
         Dues.due("part -1", x.odds(0, -1), Long.MIN_VALUE);
-        Dues.due("no term", x.odds(5, 0), Long.MIN_VALUE);
+        Dues.due("no term", x.odds(6, 0), Long.MIN_VALUE);
         Dues.due("term -1", x.odds(-1, 1), Long.MIN_VALUE);
     }
 

@@ -190,6 +190,9 @@ public final class TermsTest {
         Dues.due("39", x.of(5, 4), 39);
         Dues.due("40", x.when(5, 70603), 6);
         Dues.due("40", x.of(6, 4), 40);
+        Dues.due("40 says", x.says(6, 223), 16);
+        Dues.due("40 says as its one", x.says(6, 0), x.says(5, 0));
+        Dues.due("40 has one rule", x.rule(6, -1), 1);
         Dues.due("41 by when", x.when(6, 70603), -4);
         Dues.due("41 by cap", x.cap(6, 70603, 1), -4);
         Dues.due("41 by two", x.two(5, 5, 0), -4);
