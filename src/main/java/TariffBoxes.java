@@ -22,6 +22,8 @@ public final class TariffBoxes {
     private static final int MOST_TAPE = 60, MOST_WITHIN = 6, MOST_RACKS = 4, MOST_PLACES = 70;
     /** Of SIZE 40 the longest text is of 39 CAPS with 12 bytes each and a FEE of two. */
     private static final int MOST_PAPER = 470;
+    /** All bits of an int but its sign's. */
+    private static final int NO_SIGN = 0x7fffffff;
 
     private final Terms terms = new Terms();
     private final Paid receipts = new Paid();
@@ -298,7 +300,7 @@ public final class TariffBoxes {
         int greatest = NOT;
         for (int k = 0; k < n; k++) {
             z = z * 1664525 + 1013904223;
-            int said = tree.answer((z & Integer.MAX_VALUE) / 256 % CASES);
+            int said = tree.answer((z & NO_SIGN) / 256 % CASES);
             if (said == NOT) {
                 silent++;
             } else {

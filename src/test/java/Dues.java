@@ -54,10 +54,10 @@ final class Dues {
         return text.toString();
     }
 
-    /** What a term says of each case, as a text. */
-    static String allSaid(TariffBoxes x, int term) {
+    /** What a term says of every third case, as a text: an object is good for 512 calls. */
+    static String muchSaid(TariffBoxes x, int term) {
         StringBuilder text = new StringBuilder();
-        for (int one = 0; one < 224; one++) {
+        for (int one = 0; one < 224; one += 3) {
             text.append(x.says(term, one)).append(' ');
         }
         return text.toString();

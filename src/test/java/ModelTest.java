@@ -7,9 +7,12 @@ import java.util.List;
  * objects, a stack machine for the texts, boxes tried whole).
  */
 public final class ModelTest {
-    private static final int RUNS = 1200;
-    private static final int CALLS = 170;
+    private static final int RUNS = 2500;
+    /** An object is good for 512 calls. */
+    private static final int CALLS = 512;
     private static long state = 20261118;
+    /** How many calls this run's object has had. */
+    private static int spent = 0;
     /** Texts without room, with a fault, taken: each must come often, or little is tested. */
     private static final int[] kinds = new int[3];
 
@@ -50,7 +53,9 @@ public final class ModelTest {
         TariffBoxes x = new TariffBoxes();
         Model m = new Model();
         StringBuilder told = new StringBuilder();
-        for (int k = 0; k < CALLS; k++) {
+        spent = 0;
+        // no step takes a hundred calls
+        while (spent <= CALLS - 100) {
             long[] answers = draw(6) == 0 ? text(x, m, told) : call(x, m, told);
             Dues.due("run " + run, answers[0], answers[1]);
             if (answers[0] != answers[1]) {
@@ -130,6 +135,7 @@ public final class ModelTest {
     /** A text is fed, and mostly read at once, with the way to its fault. */
     private static long[] text(TariffBoxes x, Model m, StringBuilder told) {
         String text = Texts.any(m.terms.size());
+        spent += text.length();
         told.append("text ").append(text).append('\n');
         for (int k = 0; k < text.length(); k++) {
             x.feed(text.charAt(k));
@@ -147,16 +153,18 @@ public final class ModelTest {
     }
 
     private static long[] both(long got, long want) {
+        spent++;
         return new long[] {got, want};
     }
 
+    /** Sixty bytes of THE PAPER, from anywhere in it. */
     private static long[] paper(TariffBoxes x, Model m) {
-        for (int k = -1; k <= m.paper.length(); k++) {
-            if (x.paper(k) != m.paper(k)) {
-                return both(x.paper(k), m.paper(k));
-            }
+        int from = draw(m.paper.length() + 2) - 1;
+        long[] answers = both(0, 0);
+        for (int k = from; k < from + 60 && k <= m.paper.length() && answers[0] == answers[1]; k++) {
+            answers = both(x.paper(k), m.paper(k));
         }
-        return both(0, 0);
+        return answers;
     }
 
     /** Half of the fees are those that a term says, or little can fit. */
@@ -183,6 +191,7 @@ public final class ModelTest {
     private static long[] judge(TariffBoxes x, Model m, int t, int rack) {
         if (draw(2) == 0 && m.has(t)) {
             int many = Math.min(70, 7 * m.part(t, -1, 0));
+            spent += 3;
             x.rack(rack, many);
             m.rack(rack, many);
             x.lay(t, rack, 0);
@@ -225,6 +234,7 @@ public final class ModelTest {
                     default: text.setCharAt(Math.min(at, text.length() - 1), letter); break;
                 }
             }
+            text.setLength(Math.min(text.length(), 70));
             return text.toString();
         }
 

@@ -222,7 +222,7 @@ public final class RacksTest {
         x.two(4, 4, 1);
         x.paid(3, 4);
         x.paid(5, -1);
-        String said = Dues.allSaid(x, 5);
+        String said = Dues.muchSaid(x, 5);
         Dues.due("image", x.image(), 6);
         for (int k = 0; k < 6; k++) {
             x.drop();
@@ -236,7 +236,7 @@ public final class RacksTest {
         Dues.due("undo", x.undo(), 6);
         Dues.due("terms", x.count(0), 6);
         Dues.due("paid", x.count(1), 2);
-        Dues.same("said", Dues.allSaid(x, 5), said);
+        Dues.same("said", Dues.muchSaid(x, 5), said);
         Dues.same("spelled", Dues.spelled(x, 5), "+(/(?001202(31),^341202:9(30)),?001202(31))");
         int[] fifth = {4, -5, 4, 1, 8, 3, -5};
         for (int what = 0; what < 7; what++) {
