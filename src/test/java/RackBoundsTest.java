@@ -108,6 +108,13 @@ public final class RackBoundsTest {
             Dues.same("those between", row(x, 0), v + " 0 0 0 0 0 0 0 " + v);
             Dues.same("another one", row(x, 2), "1 3 1 3 0 2 7");
         }
+        for (int rack = 0; rack < 4; rack++) {
+            TariffBoxes x = new TariffBoxes();
+            x.rack(rack, 1);
+            Dues.due("the only place of " + rack, x.put(rack, 0, 4), 1);
+            Dues.due("the only place of " + rack, x.get(rack, 0), 4);
+            Dues.due("behind it", x.put(rack, 1, 4), -13);
+        }
         TariffBoxes y = new TariffBoxes();
         y.rack(0, 70);
         Dues.due("the 70th place", y.put(0, 69, 5), 1);

@@ -454,11 +454,24 @@ public final class TermBoundsTest {
         Dues.due("the longest", x.way(-1), 7);
         Dues.due("its last", x.way(6), 0);
         Dues.due("behind its last", x.way(7), -1);
+        Dues.due("the next text begins anew", Dues.tell(x, "?000000(1)"), 10);
+        fullWayThenShort(x);
         TariffBoxes y = States.full();
         Dues.due("no room", y.read(), -4);
         Dues.due("no room has no way of its own", y.way(-1), 1);
         Dues.due("the empty text", y.read(), -100);
         Dues.due("has an empty way", y.way(-1), 0);
+    }
+
+    /** The longest WAY gives way to one that is shorter. */
+    private static void fullWayThenShort(TariffBoxes x) {
+        Dues.due("the longest stays", x.way(-1), 7);
+        Dues.tell(x, "1,");
+        Dues.due("gone", x.way(-1), 0);
+        Dues.due("its first is gone", x.way(0), -1);
+        Dues.tell(x, "/(1,?9");
+        Dues.same("a shorter one", Dues.way(x), "4 0");
+        Dues.due("behind its last", x.way(2), -1);
     }
 
     private static void promise12() {
