@@ -166,8 +166,7 @@ public final class TariffBoxes {
             return NO;
         }
         int covers = covered(term);
-        int common = commonDivisor(covers);
-        return part == 0 ? covers / common : CASES / common;
+        return inLowestTerms(part == 0 ? covers : CASES, covers);
     }
 
     public int part(int term, int i, int what) {
@@ -522,14 +521,14 @@ public final class TariffBoxes {
         return many;
     }
 
-    /** The greatest common divisor of a number 0 .. 224 and 224. */
-    private static int commonDivisor(int number) {
+    /** What one side of covers by 224 (covers or 224) is in lowest terms. */
+    private static int inLowestTerms(int side, int covers) {
         for (int d = CASES; d > 1; d--) {
-            if (number % d == 0 && CASES % d == 0) {
-                return d;
+            if (covers % d == 0 && CASES % d == 0) {
+                return side / d;
             }
         }
-        return 1;
+        return side;
     }
 
     private boolean isIdle(int place) {

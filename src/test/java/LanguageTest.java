@@ -29,6 +29,7 @@ public final class LanguageTest {
         classesInside();
         fields();
         words();
+        nothingIsMadeByCalls();
         sizes();
         Dues.end("LanguageTest");
     }
@@ -145,6 +146,19 @@ public final class LanguageTest {
         }
         used.removeAll(Arrays.asList("Long.MIN_VALUE", "Math.max", "Math.min"));
         Dues.same("other classes' static members", used.toString(), "[]");
+    }
+
+    /** All calls of a run share one small room: objects and rows are made with the fields that hold them. */
+    private static void nothingIsMadeByCalls() throws IOException {
+        int made = 0;
+        for (String text : source().split("\n")) {
+            if (text.matches(".*\\bnew\\b.*")) {
+                made++;
+                Dues.same(text, text.matches(" {4}( {4})?(private )?final \\S+ \\w+ = new .*;") ? "a field" : "no field",
+                    "a field");
+            }
+        }
+        Dues.due("objects and rows are made", made > 20 ? 1 : 0, 1);
     }
 
     private static void sizes() throws IOException {

@@ -2,6 +2,7 @@
 public final class TermsTest {
     public static void main(String[] args) {
         newObject();
+        asReadmeShows();
         flatAndEmpty();
         whenAndCap();
         boxesAtTheirEdges();
@@ -35,6 +36,20 @@ public final class TermsTest {
         Dues.due("new: paper(0)", x.paper(0), -1);
         Dues.due("new: undo()", x.undo(), -3);
         Dues.due("new: judge(0, 0)", x.judge(0, 0), -1);
+    }
+
+    private static void asReadmeShows() {
+        TariffBoxes x = new TariffBoxes();
+        int fee = x.flat(12);
+        int early = x.when(fee, 70600);
+        Dues.due("early", early, 1);
+        Dues.due("says(early, 0)", x.says(early, 0), 12);
+        Dues.due("says(early, 1)", x.says(early, 1), TariffBoxes.NOT);
+        Dues.due("part(early, -1, 0)", x.part(early, -1, 0), 1);
+        int told = Dues.tell(x, "/(#1,?070603(5))");
+        Dues.due("told", told, 4);
+        Dues.due("what 1 says", x.says(told, 0), 12);
+        Dues.due("else 5", x.says(told, 1), 5);
     }
 
     private static void flatAndEmpty() {

@@ -13,8 +13,10 @@ public final class TextBoundsTest {
         formsAsByCalls();
         endsTooEarly();
         strangeBytes();
+        longestTexts();
         numbersOfTwoFigures();
         namesOfTerms();
+        namesOfTermsThatWere();
         namesOfNewTerms();
         within();
         withinTheOther();
@@ -95,6 +97,22 @@ public final class TextBoundsTest {
         }
     }
 
+    /** Texts of all 60 bytes, with a FAULT at the last one, and behind it. */
+    private static void longestTexts() {
+        String first = "+(" + States.SIXTY.substring(8, 59) + ",";
+        fault(first + "^07060", 60, "54 0");
+        fault(first + "^0706x", 59, "54 0");
+        fault(first + "^07064", 59, "54 0");
+        fault(first + "#00000", 57, "0");
+        fault(first + "#1    ", 55, "54 0");
+        fault(first + "-)    ", 56, "");
+        fault(first + "12345)", 56, "0");
+        fault(States.SIXTY.substring(0, 59) + ",", 59, "0");
+        TariffBoxes x = new TariffBoxes();
+        Dues.feed(x, States.SIXTY + "x");
+        Dues.due("the 61st byte is none of the text", x.read(), 6);
+    }
+
     private static void numbersOfTwoFigures() {
         for (int fee = 0; fee <= 99; fee++) {
             TariffBoxes x = new TariffBoxes();
@@ -160,6 +178,20 @@ public final class TextBoundsTest {
         fault(States.flats(2), "#1(", 2, "");
         fault(States.flats(2), "#1)", 2, "");
         fault(States.flats(2), "#1#1", 2, "");
+    }
+
+    /** A TERM that was dropped, or came behind THE IMAGE that all is as again, is not there. */
+    private static void namesOfTermsThatWere() {
+        TariffBoxes x = States.flats(3);
+        x.drop();
+        fault(x, "#2", 1, "0");
+        x.image();
+        x.flat(7);
+        Dues.due("another one of that number", Dues.tell(x, "#2"), 2);
+        x.undo();
+        fault(x, "+(#1,#2)", 6, "5 0");
+        Dues.due("told and refused before", Dues.tell(x, "+(1,x)"), -104);
+        fault(x, "#2", 1, "0");
     }
 
     private static void namesOfNewTerms() {
